@@ -90,7 +90,11 @@ public final class LandBook {
             text[1 + i] = chain.at(i);
         }
         Points[] rings = {cutter.first, cutter.second};
-        return replaceLots(new Deed(SPLIT, day, names), text, rings);
+        if (isFull(rings.length, 0, text) || haveTooManyCorners(rings)) {
+            return FULL;
+        }
+        enter(new Deed(SPLIT, day, names), text);
+        return register.replaceLots(rings);
     }
 
     public int merge(int a, int b, int day)
@@ -110,7 +114,11 @@ public final class LandBook {
         }
         int[] text = {a * UPPER + b};
         Points[] rings = {joiner.joined};
-        return replaceLots(new Deed(MERGE, day, names), text, rings);
+        if (isFull(rings.length, 0, text) || haveTooManyCorners(rings)) {
+            return FULL;
+        }
+        enter(new Deed(MERGE, day, names), text);
+        return register.replaceLots(rings);
     }
 
     public int transfer(int lot, int from, int to, int num, int den, int day)
@@ -429,25 +437,20 @@ public final class LandBook {
                 || log.size + Log.lengthOf(text) > MOST_WORDS;
     }
 
+    private static boolean haveTooManyCorners(Points[] rings) {
+        for (Points ring : rings) {
+            if (ring.size > MOST_CORNERS) {
+                return true;
+            }
+        }
+        return false;
+    }
+
     /** Accepts a deed: its entry. */
     private int enter(Deed deed, int[] text) {
         int entry = register.enter(deed);
         log.append(deed, entry, text);
         return entry;
-    }
-
-    /** Accepts a deed that puts new lots in the place of those it names, or refuses it for room. */
-    private int replaceLots(Deed deed, int[] text, Points[] rings) {
-        if (isFull(rings.length, 0, text)) {
-            return FULL;
-        }
-        for (Points ring : rings) {
-            if (ring.size > MOST_CORNERS) {
-                return FULL;
-            }
-        }
-        enter(deed, text);
-        return register.replaceLots(rings);
     }
 
     /**
@@ -456,7 +459,7 @@ public final class LandBook {
      */
     private static final class Points {
         private final int[] items;
-        private int size;
+        int size;
 
         Points(int room) {
             items = new int[room];
@@ -641,8 +644,8 @@ public final class LandBook {
         private static final int ROOM = MOST_CORNERS + MOST_POINTS;
 
         private final Points piece = new Points(ROOM);
-        private final Points first = new Points(ROOM);
-        private final Points second = new Points(ROOM);
+        final Points first = new Points(ROOM);
+        final Points second = new Points(ROOM);
 
         /** Whether the chain fits; first and second are the two rings then. */
         boolean cut(Points ring, Points chain) {
@@ -730,7 +733,7 @@ public final class LandBook {
         private final Points right = new Points(ROOM);
         private final int[] matches = new int[ROOM];
         private final Points outline = new Points(2 * ROOM);
-        private final Points joined = new Points(2 * ROOM);
+        final Points joined = new Points(2 * ROOM);
 
         /** Whether just one unbroken line is common to both; joined is the ring of both then. */
         boolean join(Points a, Points b) {
@@ -814,12 +817,12 @@ public final class LandBook {
 
     /** An accepted deed; its entry is its place in the register. */
     private static final class Deed {
-        private final int kind;
-        private final int day;
-        private final int[] names;
-        private final int from;
-        private final int to;
-        private final int parts;
+        final int kind;
+        final int day;
+        final int[] names;
+        final int from;
+        final int to;
+        final int parts;
 
         Deed(int kind, int day, int[] names) {
             this(kind, day, names, 0, 0, 0);
@@ -848,11 +851,11 @@ public final class LandBook {
 
     /** A lot, with what it had when it began. */
     private static final class Lot {
-        private final Points ring;
-        private final int began;
-        private final int[] shares;
+        final Points ring;
+        final int began;
+        final int[] shares;
         private final boolean[] tookOver;
-        private int ended;
+        int ended;
 
         Lot(Points ring, int began, int[] shares, boolean[] tookOver) {
             this.ring = ring;
@@ -867,9 +870,9 @@ public final class LandBook {
     }
 
     private static final class Easement {
-        private final int over;
-        private final int granted;
-        private int released;
+        final int over;
+        final int granted;
+        int released;
 
         Easement(int over, int granted) {
             this.over = over;
@@ -1010,15 +1013,15 @@ public final class LandBook {
         int replaceLots(Points[] rings) {
             int entry = lastEntry();
             Deed deed = deed(entry);
-            int[] shares = new int[PERSONS];
-            tellShares(deed.names[0], deed.day, entry - 1, shares);
+            int[] inherited = new int[PERSONS];
+            tellShares(deed.names[0], deed.day, entry - 1, inherited);
             boolean[] tookOver = burdensOf(deed.names, deed.day, entry - 1);
             for (int name : deed.names) {
                 lot(name).ended = entry;
             }
             int least = lots.size() + 1;
             for (Points ring : rings) {
-                lots.add(new Lot(ring.copy(), entry, shares, tookOver));
+                lots.add(new Lot(ring.copy(), entry, inherited, tookOver));
             }
             return least;
         }
@@ -1091,8 +1094,8 @@ public final class LandBook {
         private static final int FIRST_ROOM = 256;
 
         private int[] words = new int[FIRST_ROOM];
-        private int size;
-        private int synced;
+        int size;
+        int synced;
 
         /** How many words a record has: its text, two words before it and two behind. */
         static int lengthOf(int[] text) {

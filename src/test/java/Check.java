@@ -20,12 +20,13 @@ final class Check {
         }
     }
 
-    /** An answer, or the simple name of the exception that the call throws. */
+    /** An answer, or the simple name of the exception that the call throws, by a throw statement. */
     static Object answerOf(Call call) {
         try {
             return call.answer();
         } catch (RuntimeException e) {
-            return e.getClass().getSimpleName();
+            boolean meant = e.getStackTrace()[0].getClassName().startsWith("LandBook");
+            return e.getClass().getSimpleName() + (meant ? "" : " by itself");
         }
     }
 

@@ -111,14 +111,20 @@ final class LimitTest {
 
     /** Nothing is promised beyond 512 calls, but nothing may break either. */
     private static void deedsAndWords() {
-        LandBook book = Book.square(10);
-        for (int i = 1; i <= 600; i++) {
+        LandBook book = strips(3);
+        Check.due("ease", 1, () -> book.ease(2, 3, 0));
+        for (int i = 3; i <= 600; i++) {
             int it = i;
-            Check.due("transfer", it, () -> book.transfer(1, (it + 1) % 2, it % 2, 1, 1, 0));
+            Check.due("transfer", it, () -> book.transfer(2, (it + 1) % 2, it % 2, 1, 1, 0));
         }
-        Check.due("one more", -4, () -> book.transfer(1, 0, 1, 1, 1, 0));
-        Check.due("its own reason comes first", -3, () -> book.transfer(1, 1, 0, 1, 1, 0));
+        Check.due("one more transfer", -4, () -> book.transfer(2, 0, 1, 1, 1, 0));
+        Check.due("its own reason comes first", -3, () -> book.transfer(2, 1, 0, 1, 1, 0));
+        Check.due("one more split", -4, () -> Book.split(book, 3, 0, 50, 0, 50, 20000));
+        Check.due("one more merge", -4, () -> book.merge(2, 3, 0));
+        Check.due("one more easement", -4, () -> book.ease(3, 2, 0));
+        Check.due("one more release", -4, () -> book.release(1, 0));
         Check.due("words", 3600, () -> book.many(3));
         Check.due("mount", 600, () -> book.mount());
+        Check.due("it stands still", 1, () -> book.burden(2, 0, 0, 600));
     }
 }
