@@ -92,7 +92,8 @@ final class SlantTest {
     private void begin(int lot, long area) {
         int[][] ring = new int[book.corners(lot)][];
         for (int k = 0; k < ring.length; k++) {
-            ring[k] = new int[] {book.corner(lot, k) / 32768, book.corner(lot, k) % 32768};
+            int corner = book.corner(lot, k);
+            ring[k] = new int[] {corner / 32768, corner % 32768};
         }
         Check.that(told("a ring", ring), isSimple(ring, true));
         Check.due(told("area", ring), area, () -> area(ring));
@@ -101,7 +102,8 @@ final class SlantTest {
             int[] next = ring[(k + 1) % ring.length];
             int[] before = ring[(k + ring.length - 1) % ring.length];
             Check.that(told("no straight corner", ring), cross(before, ring[k], next) != 0);
-            Check.that(told("least first", ring), book.corner(lot, 0) <= book.corner(lot, k));
+            Check.that(told("least first", ring), ring[0][0] < ring[k][0]
+                    || ring[0][0] == ring[k][0] && ring[0][1] <= ring[k][1]);
         }
         rings.add(ring);
         lots.add(lot);
