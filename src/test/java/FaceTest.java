@@ -117,12 +117,14 @@ final class FaceTest {
     /** Words that the rules leave out, looked for in the text without its comments. */
     private static void source(String text) {
         String code = text.replaceAll("(?s)/\\*.*?\\*/", "").replaceAll("//[^\n]*", "");
-        String[] left = {"->", "::", "synchronized", "assert ", "finally", "package ", "catch", "Exact", "@",
-            "hashCode", "toString", "System.out", "Random", "static {", "double", "float", "instanceof"};
+        String[] left = {"::", "synchronized", "assert ", "finally", "package ", "Exact(", "hashCode", "System.out",
+            "System.in", "Random", "Thread", "static {", "try ("};
         for (String word : left) {
             Check.that("no " + word, !code.contains(word));
         }
-        String imports = code.replaceAll("import java\\.util\\.(ArrayList|Arrays);", "");
+        String withoutCases = code.replaceAll("(case [^;{}]*|default *)->", "");
+        Check.that("no lambda", !withoutCases.contains("->"));
+        String imports = code.replaceAll("import java\\.util\\.(ArrayList|Arrays|List|Iterator|NoSuchElementException);", "");
         Check.that("imports", !imports.contains("import ") && !imports.contains("java."));
         for (char c : text.toCharArray()) {
             if (c > 126) {

@@ -18,6 +18,7 @@ final class LimitTest {
         noMoreThan60CornersOfAMergedLot();
         cornersOfASplitAsTheyAreKept();
         cornersOfAMergeAsTheyAreKept();
+        aLineThatEndsOnSidesOfALotOf60Corners();
         otherRefusalsComeFirst();
         aRefusedDeedChangesNothing();
         manyDeeds();
@@ -134,6 +135,16 @@ final class LimitTest {
         // two lots of 60 and of 33 corners, whose saw between them is gone behind the merge
         Script.run("a few are left", Script.join(SAWN, "cut 3 0 " + saw(300, 27, 0) + " -> 4", "corners 4 -> 60",
                 "corners 2 -> 33", "merge 2 4 0 -> 6", "corners 6 -> 31"));
+    }
+
+    /** Lot 4 has 60 corners; the line ends in the middle of its sides, so that there are 62 points on its ring. */
+    private static void aLineThatEndsOnSidesOfALotOf60Corners() {
+        String[] between = Script.join(SAWN, "cut 3 0 " + saw(300, 27, 0) + " -> 4", "cut 2 0 505 15 1000 15 -> 6",
+                "cut 7 0 505 265 1000 265 -> 8");
+        Script.run("60 corners and two points", Script.join(between, "corners 4 -> 60", "corners 8 -> 29",
+                "merge 4 8 0 -> 10", "corners 10 -> 39", "near 10 0 99 -> 5 6 9 0"));
+        Script.run("the other way round", Script.join(between, "merge 8 4 0 -> 10", "corners 10 -> 39",
+                "corner 10 0 -> " + 300 * 32768, "corner 10 2 -> " + (510 * 32768 + 10)));
     }
 
     private static void otherRefusalsComeFirst() {

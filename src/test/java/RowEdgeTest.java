@@ -142,8 +142,18 @@ final class RowEdgeTest {
     }
 
     private static void neighboursHaveOnlyTheirCorner() {
+        // three points on one line, in every order
         ring(false, "", "0 0 4 0 2 0");
+        ring(false, "", "0 0 2 0 4 0");
+        ring(false, "", "2 0 0 0 4 0");
+        ring(false, "", "2 0 4 0 0 0");
+        ring(false, "", "4 0 0 0 2 0");
+        ring(false, "", "4 0 2 0 0 0");
+        ring(false, "", "3 3 1 1 9 9");
         ring(true, "0,0 4,0 2,1", "0 0 4 0 2 1");
+        ring(true, "0,0 4,0 2,1", "2 1 0 0 4 0");
+        ring(false, "", "0 0 2 0 4 0 3 0");
+        ring(false, "", "1 0 0 0 4 0 2 0");
         ring(false, "", "0 0 8 0 8 8 8 4");
         ring(true, "0,0 8,0 8,8 7,4", "0 0 8 0 8 8 7 4");
         // between the last side and the first one

@@ -23,6 +23,7 @@ final class SplitEdgeTest {
         sidesThatTouch();
         neighboursThatGoBack();
         aSideThatMeetsTheRing();
+        aSideThatMeetsTheRingFarAway();
         aSideAlongTheRing();
         runsOutside();
         fromAnyPointOfTheRingToAnyOther();
@@ -162,6 +163,19 @@ final class SplitEdgeTest {
         // the first and the last side meet the ring once more, behind the end
         refused(NOTCH, "0 8 6 0 12 8");
         refused(NOTCH, "2 0 10 8 12 8");
+    }
+
+    /** A notch's tip as near as can be beside a chain as long as can be, from 0,1 to 20000,19999. */
+    private static void aSideThatMeetsTheRingFarAway() {
+        String[] tips = {"10000 10000", "9999 9999", "10001 10000", "9998 9998"};
+        for (String tip : tips) {
+            refused("0 0 20000 0 20000 20000 " + tip + " 0 20000", "0 1 20000 19999");
+        }
+        String[] above = {"10000 10001", "9999 10000", "10001 10001", "9998 9999"};
+        for (String tip : above) {
+            fits("0 0 20000 0 20000 20000 " + tip + " 0 20000", "0 1 20000 19999",
+                    "0,0 20000,0 20000,19999 0,1", "0,1 20000,19999 20000,20000 " + tip.replace(' ', ',') + " 0,20000");
+        }
     }
 
     private static void aSideAlongTheRing() {
