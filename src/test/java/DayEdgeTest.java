@@ -42,9 +42,10 @@ final class DayEdgeTest {
         Script.run("the last number", Script.join(HALVES, "area2 3 10 2 -> 100", "corners 3 -> 4", "parent 3 0 -> 1",
                 "child 3 1 -> 0", "next 3 0 10 2 -> 2", "share 3 1 10 2 -> 2520", "burden 3 0 10 2 -> 0",
                 "corner 3 0 -> 0"));
-        Script.run("lot 2 is there from the first split on", "square 10", "area2 2 0 0 -> index", "cut 1 0 5 0 5 9 -> -3",
-                "area2 2 0 0 -> index", "cut 1 0 5 0 5 10 -> 2", "area2 2 0 0 -> -1", "area2 3 0 1 -> 100",
-                "area2 4 0 1 -> index", "merge 2 3 0 -> 4", "area2 4 0 2 -> 200", "area2 5 0 2 -> index");
+        Script.run("lot 2 is there from the first split on", "square 10", "area2 2 0 0 -> index",
+                "cut 1 0 5 0 5 9 -> -3", "area2 2 0 0 -> index", "cut 1 0 5 0 5 10 -> 2", "area2 2 0 0 -> -1",
+                "area2 3 0 1 -> 100", "area2 4 0 1 -> index", "merge 2 3 0 -> 4", "area2 4 0 2 -> 200",
+                "area2 5 0 2 -> index");
     }
 
     private static void lot1IsTheDistrict() {
@@ -133,10 +134,10 @@ final class DayEdgeTest {
     }
 
     private static void inBeingIfBegunAndNotEnded() {
-        Script.run("begun on day 10, ended on day 20", Script.join(HALVES, "cut 2 20 5 5 10 5 -> 4", "area2 2 9 3 -> -1",
-                "area2 2 10 3 -> 100", "area2 2 19 3 -> 100", "area2 2 20 3 -> -1", "area2 4 19 3 -> -1",
-                "area2 4 20 3 -> 50", "area2 2 30000 2 -> 100", "area2 2 30000 1 -> -1", "area2 4 30000 2 -> -1",
-                "near 3 19 3 -> 2 0", "near 3 20 3 -> 4 5 0", "near 3 20 2 -> 2 0"));
+        Script.run("begun on day 10, ended on day 20", Script.join(HALVES, "cut 2 20 5 5 10 5 -> 4",
+                "area2 2 9 3 -> -1", "area2 2 10 3 -> 100", "area2 2 19 3 -> 100", "area2 2 20 3 -> -1",
+                "area2 4 19 3 -> -1", "area2 4 20 3 -> 50", "area2 2 30000 2 -> 100", "area2 2 30000 1 -> -1",
+                "area2 4 30000 2 -> -1", "near 3 19 3 -> 2 0", "near 3 20 3 -> 4 5 0", "near 3 20 2 -> 2 0"));
     }
 
     private static void inBeingOnOneDayBetweenTwoEntries() {

@@ -42,15 +42,16 @@ final class EasementEdgeTest {
     }
 
     private static void standsFromItsGrantOn() {
-        Script.run("day and entry", Script.join(EASED, "burdens 2 11 2 -> 0", "burdens 2 12 1 -> 0", "burdens 2 12 2 -> 1 0",
-                "burdens 2 30000 2147483647 -> 1 0", "burdens 2 30000 1 -> 0"));
+        Script.run("day and entry", Script.join(EASED, "burdens 2 11 2 -> 0", "burdens 2 12 1 -> 0",
+                "burdens 2 12 2 -> 1 0", "burdens 2 30000 2147483647 -> 1 0", "burdens 2 30000 1 -> 0"));
         Script.run("on the day the lot began", Script.join(HALVES, "ease 2 3 10 -> 1", "burdens 2 10 1 -> 0",
                 "burdens 2 10 2 -> 1 0", "burdens 2 9 2 -> -1"));
     }
 
     private static void standsUpToItsRelease() {
-        Script.run("day and entry", Script.join(EASED, "release 1 15 -> 3", "burdens 2 14 3 -> 1 0", "burdens 2 15 3 -> 0",
-                "burdens 2 15 2 -> 1 0", "burdens 2 30000 3 -> 0", "burdens 2 30000 2 -> 1 0", "burdens 2 11 3 -> 0"));
+        Script.run("day and entry", Script.join(EASED, "release 1 15 -> 3", "burdens 2 14 3 -> 1 0",
+                "burdens 2 15 3 -> 0", "burdens 2 15 2 -> 1 0", "burdens 2 30000 3 -> 0", "burdens 2 30000 2 -> 1 0",
+                "burdens 2 11 3 -> 0"));
         Script.run("on the day of its grant", Script.join(EASED, "release 1 12 -> 3", "burdens 2 12 2 -> 1 0",
                 "burdens 2 12 3 -> 0", "burdens 2 11 3 -> 0"));
         Script.run("on the last day", Script.join(EASED, "release 1 30000 -> 3", "burdens 2 29999 3 -> 1 0",
@@ -71,17 +72,17 @@ final class EasementEdgeTest {
                 "burdens 4 19 3 -> -1", "burdens 2 19 3 -> 1 0", "burdens 2 20 3 -> -1", "burdens 2 20 2 -> 1 0"));
         Script.run("while it stands", Script.join(taken, "release 1 25 -> 4", "burdens 4 24 4 -> 1 0",
                 "burdens 4 25 4 -> 0", "burdens 5 25 4 -> 0", "burdens 5 25 3 -> 1 0", "burdens 2 19 4 -> 1 0"));
-        Script.run("a merged lot", Script.join(EASED, "merge 3 2 20 -> 4", "burdens 4 20 3 -> 1 0", "burdens 4 19 3 -> -1",
-                "release 1 20 -> 4", "burdens 4 20 4 -> 0", "burdens 4 20 3 -> 1 0"));
+        Script.run("a merged lot", Script.join(EASED, "merge 3 2 20 -> 4", "burdens 4 20 3 -> 1 0",
+                "burdens 4 19 3 -> -1", "release 1 20 -> 4", "burdens 4 20 4 -> 0", "burdens 4 20 3 -> 1 0"));
     }
 
     private static void doesNotBurdenLotsThatBeganWithoutIt() {
-        Script.run("released before", Script.join(EASED, "release 1 15 -> 3", "cut 2 15 5 5 10 5 -> 4", "burdens 4 15 9 -> 0",
-                "burdens 5 30000 9 -> 0"));
+        Script.run("released before", Script.join(EASED, "release 1 15 -> 3", "cut 2 15 5 5 10 5 -> 4",
+                "burdens 4 15 9 -> 0", "burdens 5 30000 9 -> 0"));
         Script.run("granted over one half afterwards", Script.join(HALVES, "cut 2 20 5 5 10 5 -> 4", "ease 4 5 20 -> 1",
                 "burdens 4 20 9 -> 1 0", "burdens 5 20 9 -> 0"));
-        Script.run("the other lots", Script.join(EASED, "cut 3 20 0 5 5 5 -> 4", "merge 4 5 20 -> 6", "burdens 6 20 9 -> 0",
-                "burdens 2 20 9 -> 1 0"));
+        Script.run("the other lots", Script.join(EASED, "cut 3 20 0 5 5 5 -> 4", "merge 4 5 20 -> 6",
+                "burdens 6 20 9 -> 0", "burdens 2 20 9 -> 1 0"));
     }
 
     private static void takenOverAgainAndAgain() {
@@ -94,9 +95,9 @@ final class EasementEdgeTest {
 
     private static void burdensByNumber() {
         String[] three = Script.join(EASED, "ease 3 2 12 -> 2", "ease 2 3 12 -> 3", "ease 2 3 14 -> 4");
-        Script.run("the i-th", Script.join(three, "burden 2 0 14 9 -> 1", "burden 2 1 14 9 -> 3", "burden 2 2 14 9 -> 4",
-                "burden 2 3 14 9 -> 0", "burden 2 2147483647 14 9 -> 0", "burden 2 2 13 9 -> 0", "burden 3 0 14 9 -> 2",
-                "burden 3 1 14 9 -> 0"));
+        Script.run("the i-th", Script.join(three, "burden 2 0 14 9 -> 1", "burden 2 1 14 9 -> 3",
+                "burden 2 2 14 9 -> 4", "burden 2 3 14 9 -> 0", "burden 2 2147483647 14 9 -> 0",
+                "burden 2 2 13 9 -> 0", "burden 3 0 14 9 -> 2", "burden 3 1 14 9 -> 0"));
         Script.run("without a released one", Script.join(three, "release 1 14 -> 6", "burden 2 0 14 9 -> 3",
                 "burden 2 1 14 9 -> 4", "burden 2 2 14 9 -> 0", "burden 2 0 13 9 -> 1"));
         Script.run("i is negative", Script.join(three, "burden 2 -1 14 9 -> argument",
@@ -110,9 +111,10 @@ final class EasementEdgeTest {
     }
 
     private static void releaseHasNoReasonOfItsOwn() {
-        Script.run("of an easement for a lot that ended", Script.join(EASED, "cut 3 12 0 5 5 5 -> 4", "release 1 12 -> 4"));
-        Script.run("of one that a merge made pointless", Script.join(EASED, "merge 2 3 12 -> 4", "burdens 4 12 9 -> 1 0",
-                "release 1 12 -> 4", "burdens 4 12 9 -> 0"));
+        Script.run("of an easement for a lot that ended", Script.join(EASED, "cut 3 12 0 5 5 5 -> 4",
+                "release 1 12 -> 4"));
+        Script.run("of one that a merge made pointless", Script.join(EASED, "merge 2 3 12 -> 4",
+                "burdens 4 12 9 -> 1 0", "release 1 12 -> 4", "burdens 4 12 9 -> 0"));
     }
 
     private static void releasedOnce() {

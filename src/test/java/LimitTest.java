@@ -74,14 +74,16 @@ final class LimitTest {
         Script.run("released ones are counted, too", Script.join(eased(200), "release 200 1 -> 202",
                 "ease 2 3 1 -> -4", "many 2 -> 200", "burden 2 198 1 999 -> 199", "burden 2 199 1 999 -> 0",
                 "burden 2 199 1 201 -> 200", "burden 2 200 1 201 -> 0"));
-        Script.run("room after a crash", Script.join(eased(199), "sync -> 1002", "ease 2 3 1 -> 200", "ease 2 3 1 -> -4",
-                "crash 4 -> 1006", "mount -> 200", "many 2 -> 199", "ease 3 2 1 -> 200", "ease 3 2 1 -> -4"));
+        Script.run("room after a crash", Script.join(eased(199), "sync -> 1002", "ease 2 3 1 -> 200",
+                "ease 2 3 1 -> -4", "crash 4 -> 1006", "mount -> 200", "many 2 -> 199", "ease 3 2 1 -> 200",
+                "ease 3 2 1 -> -4"));
     }
 
     private static void otherDeedsNeedNoEasement() {
-        Script.run("200 easements", Script.join(eased(200), "transfer 2 0 1 1 1 1 -> 202", "transfer 3 0 1 1 1 1 -> 203",
-                "cut 2 2 19950 0 19950 20000 -> 4", "burden 5 199 2 999 -> 200", "burden 4 200 2 999 -> 0",
-                "merge 4 5 2 -> 6", "burden 6 199 2 999 -> 200", "release 1 2 -> 206", "burden 6 0 2 999 -> 2"));
+        Script.run("200 easements", Script.join(eased(200), "transfer 2 0 1 1 1 1 -> 202",
+                "transfer 3 0 1 1 1 1 -> 203", "cut 2 2 19950 0 19950 20000 -> 4", "burden 5 199 2 999 -> 200",
+                "burden 4 200 2 999 -> 0", "merge 4 5 2 -> 6", "burden 6 199 2 999 -> 200", "release 1 2 -> 206",
+                "burden 6 0 2 999 -> 2"));
     }
 
     /** A chain upwards with so many bends to and fro, and so many points on its last side. */

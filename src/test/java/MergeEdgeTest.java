@@ -37,8 +37,8 @@ final class MergeEdgeTest {
             if (lot < 0) {
                 Script.unchanged(way, lines, way + lot);
             } else {
-                Script.run(way, Script.join(lines, way + lot, "ring " + lot + " -> " + ring, "area2 " + a + " 0 99 -> -1",
-                        "area2 " + b + " 0 99 -> -1"));
+                Script.run(way, Script.join(lines, way + lot, "ring " + lot + " -> " + ring,
+                        "area2 " + a + " 0 99 -> -1", "area2 " + b + " 0 99 -> -1"));
             }
         }
     }
@@ -111,7 +111,8 @@ final class MergeEdgeTest {
 
     private static void partsOfSides() {
         // the middle of one side, one end of it, and more than the whole of it
-        String[] strips = {"square 12 -> true", "cut 1 0 6 0 6 12 -> 2", "cut 2 0 6 8 12 8 -> 4", "cut 4 0 6 4 12 4 -> 6"};
+        String[] strips = {"square 12 -> true", "cut 1 0 6 0 6 12 -> 2", "cut 2 0 6 8 12 8 -> 4",
+            "cut 4 0 6 4 12 4 -> 6"};
         merge(strips, 3, 7, 8, "0,0 6,0 6,4 12,4 12,8 6,8 6,12 0,12");
         merge(strips, 3, 6, 8, "0,0 12,0 12,4 6,4 6,12 0,12");
         merge(strips, 3, 5, 8, "0,0 6,0 6,8 12,8 12,12 0,12");
@@ -134,9 +135,9 @@ final class MergeEdgeTest {
         }
         // person 0 has nothing of either, and two others have it the other way round
         merge(Script.join(QUARTERS, "transfer 4 0 98 1 1 0 -> 4", "transfer 6 0 99 1 1 0 -> 5"), 4, 6, -3, "");
-        Script.run("the shares of both", Script.join(QUARTERS, "transfer 4 0 99 1 3 0 -> 4", "transfer 6 0 98 1 3 0 -> 5",
-                "transfer 6 98 99 1 3 0 -> 6", "merge 4 6 0 -> 8", "share 8 99 0 7 -> 1680", "share 8 98 0 7 -> 0",
-                "share 8 0 0 7 -> 3360", "share 4 99 0 6 -> 1680"));
+        Script.run("the shares of both", Script.join(QUARTERS, "transfer 4 0 99 1 3 0 -> 4",
+                "transfer 6 0 98 1 3 0 -> 5", "transfer 6 98 99 1 3 0 -> 6", "merge 4 6 0 -> 8",
+                "share 8 99 0 7 -> 1680", "share 8 98 0 7 -> 0", "share 8 0 0 7 -> 3360", "share 4 99 0 6 -> 1680"));
     }
 
     private static void sharesAsOfItsDay() {
@@ -146,10 +147,11 @@ final class MergeEdgeTest {
     }
 
     private static void itEndsBothAndBeginsOne() {
-        Script.run("a merge", Script.join(QUARTERS, "merge 6 4 3 -> 8", "many 0 -> 8", "many 1 -> 4", "family 8 -> 4 6 0 0",
-                "family 4 -> 2 0 8 0", "family 6 -> 3 0 8 0", "family 5 -> 2 0 0 0", "area2 4 2 4 -> 50",
-                "area2 4 3 4 -> -1", "area2 6 3 4 -> -1", "area2 8 2 4 -> -1", "area2 8 3 4 -> 100",
-                "area2 8 3 3 -> -1", "near 8 3 4 -> 5 7 0", "merge 8 8 3 -> -3", "merge 8 4 3 -> -1"));
+        Script.run("a merge", Script.join(QUARTERS, "merge 6 4 3 -> 8", "many 0 -> 8", "many 1 -> 4",
+                "family 8 -> 4 6 0 0", "family 4 -> 2 0 8 0", "family 6 -> 3 0 8 0", "family 5 -> 2 0 0 0",
+                "area2 4 2 4 -> 50", "area2 4 3 4 -> -1", "area2 6 3 4 -> -1", "area2 8 2 4 -> -1",
+                "area2 8 3 4 -> 100", "area2 8 3 3 -> -1", "near 8 3 4 -> 5 7 0", "merge 8 8 3 -> -3",
+                "merge 8 4 3 -> -1"));
     }
 
     /** Corners at the ends of the line go straight on, or bend, or are the least corner. */
@@ -170,8 +172,8 @@ final class MergeEdgeTest {
     private static void theBurdensOfEither() {
         String[] burdened = Script.join(QUARTERS, "ease 6 4 5 -> 1", "ease 4 6 5 -> 2", "ease 5 7 5 -> 3",
                 "ease 6 7 5 -> 4");
-        Script.run("of the first and of the second", Script.join(burdened, "merge 4 6 5 -> 8", "burdens 8 5 9 -> 1 2 4 0",
-                "burdens 5 5 9 -> 3 0", "burdens 4 5 7 -> 2 0"));
+        Script.run("of the first and of the second", Script.join(burdened, "merge 4 6 5 -> 8",
+                "burdens 8 5 9 -> 1 2 4 0", "burdens 5 5 9 -> 3 0", "burdens 4 5 7 -> 2 0"));
         Script.run("the other way round", Script.join(burdened, "merge 6 4 5 -> 8", "burdens 8 5 9 -> 1 2 4 0"));
         Script.run("of one of them alone", Script.join(burdened, "merge 7 5 5 -> 8", "burdens 8 5 9 -> 3 0"));
         Script.run("of neither", Script.join(QUARTERS, "merge 7 5 5 -> 8", "burdens 8 5 9 -> 0"));

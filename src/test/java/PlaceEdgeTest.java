@@ -37,10 +37,10 @@ final class PlaceEdgeTest {
 
     private static void onTheRingAndBesideIt() {
         String[] square = {"row 10 10 30 10 30 30 10 30", "open -> true"};
-        places(square, 1, 10, 10, 30, 10, 30, 30, 10, 30, 20, 10, 30, 20, 20, 30, 10, 20, 11, 11, 29, 29, 11, 10, 10, 11,
-                29, 30, 30, 29, 20, 20);
-        places(square, 0, 9, 10, 10, 9, 31, 10, 30, 9, 31, 30, 30, 31, 9, 30, 10, 31, 20, 9, 31, 20, 20, 31, 9, 20, 9, 9,
-                31, 31, 0, 10, 0, 30, 20000, 10, 20000, 30, 10, 0, 10, 20000, 0, 20, 20000, 20);
+        places(square, 1, 10, 10, 30, 10, 30, 30, 10, 30, 20, 10, 30, 20, 20, 30, 10, 20, 11, 11, 29, 29, 11, 10, 10,
+                11, 29, 30, 30, 29, 20, 20);
+        places(square, 0, 9, 10, 10, 9, 31, 10, 30, 9, 31, 30, 30, 31, 9, 30, 10, 31, 20, 9, 31, 20, 20, 31, 9, 20, 9,
+                9, 31, 31, 0, 10, 0, 30, 20000, 10, 20000, 30, 10, 0, 10, 20000, 0, 20, 20000, 20);
     }
 
     private static void onASlantedRingAndBesideIt() {
@@ -65,9 +65,9 @@ final class PlaceEdgeTest {
     }
 
     private static void noneOutside() {
-        Script.run("whatever the day and the entry", Script.join(QUARTERS, "lotAt 9 20 0 0 -> 0", "lotAt 9 20 30000 99 -> 0",
-                "lotAt 31 20 0 1 -> 0", "lotAt 10 20 0 0 -> 1", "lotAt 10 20 0 1 -> 3", "lotAt 10 20 0 2 -> 3",
-                "lotAt 10 20 0 3 -> 6"));
+        Script.run("whatever the day and the entry", Script.join(QUARTERS, "lotAt 9 20 0 0 -> 0",
+                "lotAt 9 20 30000 99 -> 0", "lotAt 31 20 0 1 -> 0", "lotAt 10 20 0 0 -> 1", "lotAt 10 20 0 1 -> 3",
+                "lotAt 10 20 0 2 -> 3", "lotAt 10 20 0 3 -> 6"));
         // between the arms of a C
         String[] c = {"row 0 0 12 0 12 3 4 3 4 9 12 9 12 12 0 12", "open -> true"};
         places(c, 0, 5, 4, 12, 4, 8, 6, 5, 8, 12, 8, 13, 0, 13, 12);
@@ -86,8 +86,8 @@ final class PlaceEdgeTest {
     private static void besideCornersAndTips() {
         String[] teeth = {"row 2 0 4 4 6 0 8 4 10 0 10 9 6 5 2 9", "open -> true"};
         places(teeth, 1, 2, 4, 3, 4, 4, 4, 5, 4, 6, 4, 8, 4, 10, 4, 2, 5, 6, 5, 10, 5, 6, 0, 2, 0, 10, 0, 2, 9, 10, 9);
-        places(teeth, 0, 0, 4, 1, 4, 11, 4, 0, 5, 1, 5, 11, 5, 0, 0, 1, 0, 3, 0, 4, 0, 5, 0, 8, 0, 11, 0, 0, 9, 5, 9, 6, 9,
-                11, 9, 4, 3, 8, 3, 6, 6);
+        places(teeth, 0, 0, 4, 1, 4, 11, 4, 0, 5, 1, 5, 11, 5, 0, 0, 1, 0, 3, 0, 4, 0, 5, 0, 8, 0, 11, 0, 0, 9, 5, 9,
+                6, 9, 11, 9, 4, 3, 8, 3, 6, 6);
         String[] steps = {"row 0 0 9 0 9 3 6 3 6 6 3 6 3 9 0 9", "open -> true"};
         places(steps, 1, 6, 3, 7, 3, 9, 3, 3, 6, 6, 6, 5, 6, 0, 3, 0, 6, 3, 9, 5, 3, 2, 6);
         places(steps, 0, 7, 4, 10, 3, 7, 6, 9, 6, 4, 7, 4, 9, 10, 0, 6, 7);
@@ -114,8 +114,8 @@ final class PlaceEdgeTest {
     }
 
     private static void aLineNotJustPoints() {
-        Script.run("quarters", Script.join(QUARTERS, "near 4 0 9 -> 5 6 0", "near 5 0 9 -> 4 7 0", "near 6 0 9 -> 4 7 0",
-                "near 7 0 9 -> 5 6 0"));
+        Script.run("quarters", Script.join(QUARTERS, "near 4 0 9 -> 5 6 0", "near 5 0 9 -> 4 7 0",
+                "near 6 0 9 -> 4 7 0", "near 7 0 9 -> 5 6 0"));
         // the line between 4 and 7 has length 1, or they have a point in common, or nothing
         String[] heights = {"19", "20", "21"};
         String[] due = {"5 6 7 0", "5 6 0", "5 6 0"};
@@ -139,8 +139,9 @@ final class PlaceEdgeTest {
 
     private static void neighboursInBeing() {
         String[] days = {"square 12", "cut 1 5 6 0 6 12 -> 2", "cut 3 9 0 6 6 6 -> 4"};
-        Script.run("by day and by entry", Script.join(days, "near 2 8 2 -> 3 0", "near 2 9 2 -> 4 5 0", "near 2 9 1 -> 3 0",
-                "near 2 30000 1 -> 3 0", "near 2 5 2 -> 3 0", "near 3 8 2 -> 2 0", "near 4 9 2 -> 2 5 0"));
+        Script.run("by day and by entry", Script.join(days, "near 2 8 2 -> 3 0", "near 2 9 2 -> 4 5 0",
+                "near 2 9 1 -> 3 0", "near 2 30000 1 -> 3 0", "near 2 5 2 -> 3 0", "near 3 8 2 -> 2 0",
+                "near 4 9 2 -> 2 5 0"));
         Script.run("neither itself nor its parents", Script.join(days, "near 1 4 2 -> 0", "near 1 5 0 -> 0",
                 "near 5 9 2 -> 2 4 0"));
     }
@@ -157,20 +158,22 @@ final class PlaceEdgeTest {
             Script.run("another i", Script.join(QUARTERS, "parent 4 " + i + " -> index", "child 1 " + i + " -> index",
                     "parent 8 " + i + " -> index", "child 0 " + i + " -> index"));
         }
-        Script.run("0 and 1", Script.join(QUARTERS, "parent 4 0 -> 2", "parent 4 1 -> 0", "child 1 0 -> 2", "child 1 1 -> 3",
-                "child 4 0 -> 0", "child 4 1 -> 0", "parent 1 0 -> 0", "parent 1 1 -> 0"));
+        Script.run("0 and 1", Script.join(QUARTERS, "parent 4 0 -> 2", "parent 4 1 -> 0", "child 1 0 -> 2",
+                "child 1 1 -> 3", "child 4 0 -> 0", "child 4 1 -> 0", "parent 1 0 -> 0", "parent 1 1 -> 0"));
     }
 
     private static void parentsByNumber() {
-        Script.run("of a merge, whichever is called first", Script.join(QUARTERS, "merge 6 4 0 -> 8", "merge 5 7 0 -> 9",
-                "parent 8 0 -> 4", "parent 8 1 -> 6", "parent 9 0 -> 5", "parent 9 1 -> 7", "merge 9 8 0 -> 10",
-                "parent 10 0 -> 8", "parent 10 1 -> 9"));
-        Script.run("of a split", Script.join(QUARTERS, "family 6 -> 3 0 0 0", "family 7 -> 3 0 0 0", "family 2 -> 1 0 4 5"));
+        Script.run("of a merge, whichever is called first", Script.join(QUARTERS, "merge 6 4 0 -> 8",
+                "merge 5 7 0 -> 9", "parent 8 0 -> 4", "parent 8 1 -> 6", "parent 9 0 -> 5", "parent 9 1 -> 7",
+                "merge 9 8 0 -> 10", "parent 10 0 -> 8", "parent 10 1 -> 9"));
+        Script.run("of a split", Script.join(QUARTERS, "family 6 -> 3 0 0 0", "family 7 -> 3 0 0 0",
+                "family 2 -> 1 0 4 5"));
     }
 
     private static void childrenByNumber() {
-        Script.run("of a split and of a merge", Script.join(QUARTERS, "child 2 0 -> 4", "child 2 1 -> 5", "merge 6 4 0 -> 8",
-                "child 4 0 -> 8", "child 4 1 -> 0", "child 6 0 -> 8", "child 6 1 -> 0", "child 5 0 -> 0"));
+        Script.run("of a split and of a merge", Script.join(QUARTERS, "child 2 0 -> 4", "child 2 1 -> 5",
+                "merge 6 4 0 -> 8", "child 4 0 -> 8", "child 4 1 -> 0", "child 6 0 -> 8", "child 6 1 -> 0",
+                "child 5 0 -> 0"));
         // whatever the day: there is no as of
         Script.run("on the last day", "square 10", "child 1 0 -> 0", "cut 1 30000 5 0 5 10 -> 2", "child 1 0 -> 2",
                 "child 1 1 -> 3", "parent 2 0 -> 1");
@@ -179,15 +182,16 @@ final class PlaceEdgeTest {
     }
 
     private static void cornersOfALotThatEnded() {
-        Script.run("corners", Script.join(QUARTERS, "corners 1 -> 4", "corners 2 -> 4", "ring 1 -> 10,10 30,10 30,30 10,30",
-                "ring 2 -> 20,10 30,10 30,30 20,30", "corners 7 -> 4", "corners 8 -> index", "corners 0 -> index",
-                "corners -1 -> index"));
+        Script.run("corners", Script.join(QUARTERS, "corners 1 -> 4", "corners 2 -> 4",
+                "ring 1 -> 10,10 30,10 30,30 10,30", "ring 2 -> 20,10 30,10 30,30 20,30", "corners 7 -> 4",
+                "corners 8 -> index", "corners 0 -> index", "corners -1 -> index"));
     }
 
     private static void cornerKOfTheRing() {
-        Script.run("k", Script.join(QUARTERS, "corner 1 0 -> " + (10 * 32768 + 10), "corner 1 3 -> " + (10 * 32768 + 30),
-                "corner 1 4 -> index", "corner 1 -1 -> index", "corner 1 2147483647 -> index",
-                "corner 1 -2147483648 -> index", "corner 8 0 -> index", "corner 0 0 -> index", "corner 8 4 -> index"));
+        Script.run("k", Script.join(QUARTERS, "corner 1 0 -> " + (10 * 32768 + 10),
+                "corner 1 3 -> " + (10 * 32768 + 30), "corner 1 4 -> index", "corner 1 -1 -> index",
+                "corner 1 2147483647 -> index", "corner 1 -2147483648 -> index", "corner 8 0 -> index",
+                "corner 0 0 -> index", "corner 8 4 -> index"));
         Script.run("three of them", "row 0 0 20000 0 20000 20000", "open -> true", "corner 1 2 -> 655380000",
                 "corner 1 1 -> 655360000", "corner 1 0 -> 0", "corner 1 3 -> index");
     }

@@ -38,7 +38,8 @@ final class RefusalEdgeTest {
         after("on the day", HALVES, "cut 2 10 7 0 7 10 -> 4", "merge 2 3 10 -> 4", "transfer 2 0 1 1 2 10 -> 3",
                 "ease 2 3 10 -> 2", "transfer 3 0 1 1 2 10 -> 3", "transfer 2 0 1 1 2 30000 -> 3");
         // only one of two lots is not in being
-        after("one of two", THREE, "merge 3 4 19 -> -1", "merge 4 3 19 -> -1", "ease 3 4 19 -> -1", "ease 4 3 19 -> -1");
+        after("one of two", THREE, "merge 3 4 19 -> -1", "merge 4 3 19 -> -1", "ease 3 4 19 -> -1",
+                "ease 4 3 19 -> -1");
         after("both in being", THREE, "merge 4 5 20 -> 6", "merge 5 4 20 -> 6", "ease 5 4 20 -> 2", "ease 4 5 20 -> 2");
         after("one that began, one that ended", THREE, "merge 2 4 19 -> -1", "merge 2 4 20 -> -1", "merge 4 2 20 -> -1",
                 "ease 2 5 20 -> -1", "ease 5 2 20 -> -1");
@@ -56,7 +57,8 @@ final class RefusalEdgeTest {
     }
 
     private static void theEasementDoesNotStand() {
-        Script.run("before its grant", Script.join(HALVES, "ease 3 2 12 -> 2", "release 2 11 -> -1", "release 2 12 -> 4"));
+        Script.run("before its grant", Script.join(HALVES, "ease 3 2 12 -> 2", "release 2 11 -> -1",
+                "release 2 12 -> 4"));
         Script.run("from its release on", Script.join(HALVES, "release 1 15 -> 3", "release 1 15 -> -1",
                 "release 1 16 -> -1", "release 1 30000 -> -1", "release 1 14 -> -2", "release 1 10 -> -2",
                 "release 1 9 -> -1"));
@@ -98,8 +100,8 @@ final class RefusalEdgeTest {
     }
 
     private static void aReleaseNamesAllLotsBurdened() {
-        Script.run("not the one for which it is", Script.join(HALVES, "release 1 20 -> 3", "transfer 2 0 1 1 2 19 -> -2",
-                "transfer 3 0 1 1 2 19 -> 4", "transfer 2 0 1 1 2 20 -> 5"));
+        Script.run("not the one for which it is", Script.join(HALVES, "release 1 20 -> 3",
+                "transfer 2 0 1 1 2 19 -> -2", "transfer 3 0 1 1 2 19 -> 4", "transfer 2 0 1 1 2 20 -> 5"));
         // easement 1 burdens lots 4 and 5, which took it over on day 15
         String[] taken = Script.join(HALVES, "cut 2 15 5 5 10 5 -> 4");
         Script.run("lots that took it over", Script.join(taken, "release 1 20 -> 4", "transfer 4 0 1 1 2 19 -> -2",
@@ -124,8 +126,8 @@ final class RefusalEdgeTest {
         Script.run("a deed that a crash lost", Script.join(HALVES, "sync -> 12", "transfer 2 0 1 1 2 20 -> 3",
                 "transfer 2 0 1 1 2 19 -> -2", "crash 5 -> 17", "mount -> 2", "transfer 2 0 1 1 2 19 -> 3",
                 "transfer 2 0 1 1 2 18 -> -2"));
-        Script.run("a deed that a mount brought back", Script.join(HALVES, "transfer 2 0 1 1 2 20 -> 3", "crash 18 -> 18",
-                "mount -> 3", "transfer 2 0 1 1 2 19 -> -2", "transfer 2 0 1 1 2 20 -> 4"));
+        Script.run("a deed that a mount brought back", Script.join(HALVES, "transfer 2 0 1 1 2 20 -> 3",
+                "crash 18 -> 18", "mount -> 3", "transfer 2 0 1 1 2 19 -> -2", "transfer 2 0 1 1 2 20 -> 4"));
     }
 
     private static void lateOnlyByLotsThatItNames() {

@@ -119,9 +119,9 @@ final class ShareEdgeTest {
 
     private static void lotsThatAreNotInBeing() {
         String[] halves = Script.join(SQUARE, "cut 1 10 5 0 5 10 -> 2");
-        Script.run("share", Script.join(halves, "share 1 0 9 1 -> 5040", "share 1 0 10 1 -> -1", "share 1 0 10 0 -> 5040",
-                "share 2 0 9 1 -> -1", "share 2 0 10 1 -> 5040", "share 2 0 10 0 -> -1", "share 2 99 9 1 -> -1",
-                "share 2 99 10 1 -> 0"));
+        Script.run("share", Script.join(halves, "share 1 0 9 1 -> 5040", "share 1 0 10 1 -> -1",
+                "share 1 0 10 0 -> 5040", "share 2 0 9 1 -> -1", "share 2 0 10 1 -> 5040", "share 2 0 10 0 -> -1",
+                "share 2 99 9 1 -> -1", "share 2 99 10 1 -> 0"));
     }
 
     private static void theAnswerIsTheEntry() {

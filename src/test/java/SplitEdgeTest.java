@@ -304,8 +304,9 @@ final class SplitEdgeTest {
             "ease 3 2 7 -> 3"};
         Script.run("of the very day", Script.join(burdened, "cut 2 7 5 5 10 5 -> 4", "burdens 4 7 9 -> 1 2 0",
                 "burdens 5 7 9 -> 1 2 0", "burdens 3 7 9 -> 3 0", "burdens 4 6 9 -> -1", "burdens 2 6 9 -> 1 0"));
-        Script.run("not what was released on the day", Script.join(burdened, "release 1 7 -> 5", "cut 2 7 5 5 10 5 -> 4",
-                "burdens 4 7 9 -> 2 0", "burdens 5 7 9 -> 2 0", "burdens 2 6 9 -> 1 0", "burdens 2 7 4 -> 1 2 0"));
+        Script.run("not what was released on the day", Script.join(burdened, "release 1 7 -> 5",
+                "cut 2 7 5 5 10 5 -> 4", "burdens 4 7 9 -> 2 0", "burdens 5 7 9 -> 2 0", "burdens 2 6 9 -> 1 0",
+                "burdens 2 7 4 -> 1 2 0"));
         Script.run("what is released later", Script.join(burdened, "cut 2 7 5 5 10 5 -> 4", "release 1 7 -> 6",
                 "burdens 4 7 5 -> 1 2 0", "burdens 4 7 6 -> 2 0", "burdens 5 7 6 -> 2 0"));
         Script.run("not what the other half gets afterwards", Script.join(burdened, "cut 2 7 5 5 10 5 -> 4",
@@ -315,7 +316,8 @@ final class SplitEdgeTest {
     private static void theChainsOfLotsThatWereSplit() {
         // a chain must lie within its own lot, not only within the district
         Script.run("in half a square", "square 10", "cut 1 0 5 0 5 10 -> 2", "cut 2 0 0 5 10 5 -> -3",
-                "cut 2 0 5 5 10 5 -> 4", "cut 3 0 0 5 10 5 -> -3", "cut 3 0 0 5 5 5 -> 6", "ring 4 -> 5,0 10,0 10,5 5,5",
-                "ring 6 -> 0,0 5,0 5,5 0,5", "cut 4 0 7 0 7 10 -> -3", "cut 4 0 7 0 7 5 -> 8");
+                "cut 2 0 5 5 10 5 -> 4", "cut 3 0 0 5 10 5 -> -3", "cut 3 0 0 5 5 5 -> 6",
+                "ring 4 -> 5,0 10,0 10,5 5,5", "ring 6 -> 0,0 5,0 5,5 0,5", "cut 4 0 7 0 7 10 -> -3",
+                "cut 4 0 7 0 7 5 -> 8");
     }
 }

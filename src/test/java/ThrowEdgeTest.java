@@ -25,18 +25,18 @@ final class ThrowEdgeTest {
         "word -1", "word 18"};
 
     /** Each call with one argument that is none, or with several. */
-    private static final String[] NONE_SUCH = {"point -1 0", "point 0 -1", "point 20001 0", "point 0 20001", "split 2 -1",
-        "split 2 30001", "split 1 -1", "merge 2 3 -1", "merge 2 3 30001", "merge 2 2 -1", "merge 1 1 30001",
-        "transfer 2 -1 1 1 1 10", "transfer 2 100 1 1 1 10", "transfer 2 0 -1 1 1 10", "transfer 2 0 100 1 1 10",
-        "transfer 2 0 1 0 1 10", "transfer 2 0 1 5041 1 10", "transfer 2 0 1 1 0 10", "transfer 2 0 1 1 5041 10",
-        "transfer 2 0 1 1 1 -1", "transfer 2 0 1 1 1 30001", "transfer 1 0 0 1 0 10", "transfer 1 0 0 1 11 -1",
-        "ease 2 3 -1", "ease 2 3 30001", "ease 2 2 -1", "ease 1 1 30001", "release 1 -1", "release 1 30001",
-        "lotAt -1 0 0 0", "lotAt 0 -1 0 0", "lotAt 20001 0 0 0", "lotAt 0 20001 0 0", "lotAt 0 0 -1 0",
-        "lotAt 0 0 30001 0", "lotAt 0 0 0 -1", "area2 2 -1 0", "area2 2 30001 0", "area2 2 0 -1", "share 2 -1 10 3",
-        "share 2 100 10 3", "share 2 0 -1 3", "share 2 0 30001 3", "share 2 0 10 -1", "share 1 100 10 3",
-        "next 2 -1 10 3", "next 2 0 -1 3", "next 2 0 30001 3", "next 2 0 10 -1", "next 1 -1 10 3", "burden 2 -1 10 3",
-        "burden 2 0 -1 3", "burden 2 0 30001 3", "burden 2 0 10 -1", "burden 1 -1 10 3", "crash -1",
-        "crash -2147483648"};
+    private static final String[] NONE_SUCH = {"point -1 0", "point 0 -1", "point 20001 0", "point 0 20001",
+        "split 2 -1", "split 2 30001", "split 1 -1", "merge 2 3 -1", "merge 2 3 30001", "merge 2 2 -1",
+        "merge 1 1 30001", "transfer 2 -1 1 1 1 10", "transfer 2 100 1 1 1 10", "transfer 2 0 -1 1 1 10",
+        "transfer 2 0 100 1 1 10", "transfer 2 0 1 0 1 10", "transfer 2 0 1 5041 1 10", "transfer 2 0 1 1 0 10",
+        "transfer 2 0 1 1 5041 10", "transfer 2 0 1 1 1 -1", "transfer 2 0 1 1 1 30001", "transfer 1 0 0 1 0 10",
+        "transfer 1 0 0 1 11 -1", "ease 2 3 -1", "ease 2 3 30001", "ease 2 2 -1", "ease 1 1 30001", "release 1 -1",
+        "release 1 30001", "lotAt -1 0 0 0", "lotAt 0 -1 0 0", "lotAt 20001 0 0 0", "lotAt 0 20001 0 0",
+        "lotAt 0 0 -1 0", "lotAt 0 0 30001 0", "lotAt 0 0 0 -1", "area2 2 -1 0", "area2 2 30001 0", "area2 2 0 -1",
+        "share 2 -1 10 3", "share 2 100 10 3", "share 2 0 -1 3", "share 2 0 30001 3", "share 2 0 10 -1",
+        "share 1 100 10 3", "next 2 -1 10 3", "next 2 0 -1 3", "next 2 0 30001 3", "next 2 0 10 -1", "next 1 -1 10 3",
+        "burden 2 -1 10 3", "burden 2 0 -1 3", "burden 2 0 30001 3", "burden 2 0 10 -1", "burden 1 -1 10 3",
+        "crash -1", "crash -2147483648"};
 
     public static void main(String[] args) {
         noDistrict();
@@ -91,14 +91,15 @@ final class ThrowEdgeTest {
         Script.unchanged("calls that throw", UP, due(NO_SUCH, "index"));
         Script.unchanged("calls that throw", UP, due(NONE_SUCH, "argument"));
         Script.unchanged("open", UP, "row 0 0 9 0 0 9", "open -> state", "square 7 -> state");
-        Script.unchanged("split, but for the row", UP, "cut 4 10 5 5 10 5 -> index", "cut 2 30001 5 5 10 5 -> argument");
+        Script.unchanged("split, but for the row", UP, "cut 4 10 5 5 10 5 -> index",
+                "cut 2 30001 5 5 10 5 -> argument");
     }
 
     private static void nothingChangesWhenItIsDown() {
         String[] fallen = Script.join(UP, "crash 3 -> 15", "counts -> 3 3 1 15 12");
         String[] more = Script.join(due(ALL_WRONG, "state"), "square 7 -> state", "cut 2 10 5 5 10 5 -> state",
-                "merge 2 3 10 -> state", "transfer 2 0 1 1 2 10 -> state", "ease 2 3 10 -> state", "release 1 10 -> state",
-                "sync -> state", "crash 0 -> state", "many 5 -> index", "word 15 -> index");
+                "merge 2 3 10 -> state", "transfer 2 0 1 1 2 10 -> state", "ease 2 3 10 -> state",
+                "release 1 10 -> state", "sync -> state", "crash 0 -> state", "many 5 -> index", "word 15 -> index");
         Script.same("calls that throw", Script.join(fallen, "mount -> 2"),
                 Script.join(fallen, Script.join(more, "counts -> 3 3 1 15 12", "mount -> 2")));
     }
