@@ -355,7 +355,7 @@ public final class LandBook {
         int whole = 0;
         while (place < log.size) {
             int length = log.recordLength(place);
-            if (length == 0) {
+            if (length <= 0) {
                 break;
             }
             place += length;
