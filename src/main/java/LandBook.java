@@ -881,8 +881,8 @@ public final class LandBook {
     }
 
     /**
-     * The deeds, and the lots and easements that they began and ended. Of these it holds only
-     * entries, so that every state that ever was can be told, and later deeds can be cut off.
+     * The deeds, and the lots and easements that they began and ended. These hold the entries of
+     * such deeds, so that every state that ever was can be told, and later deeds can be cut off.
      */
     private static final class Register {
         private final ArrayList<Deed> deeds = new ArrayList<>();
